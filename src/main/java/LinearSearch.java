@@ -865,17 +865,16 @@ public final class LinearSearch {
     private static final class Automaton {
         private final Follower follower = new Follower();
         private final ThreadList list = new ThreadList();
-        /** One state more than the limit: the last of the row is where the next state is tried out. */
         private final State[] row;
-        private final int limit;
+        /** Where a state is tried out before it is known whether it is a new one. */
+        private State spare = new State();
         private int kept;
         private int flushed;
         private int flushedInSearch;
         private int made;
 
         Automaton(int itsLimit) {
-            limit = Math.max(itsLimit, 1);
-            row = new State[limit + 1];
+            row = new State[Math.max(itsLimit, 1)];
             for (int i = 0; i < row.length; i++) {
                 row[i] = new State();
             }
@@ -964,14 +963,14 @@ public final class LinearSearch {
 
         /** Keeps what stands in the list as a state, if it is not known: where it is kept, or NONE to give up. */
         private int keep(Program program, boolean open) {
-            State fresh = row[limit];
+            State fresh = spare;
             fresh.fill(program, list, open);
-            for (int i = 0; i < kept && i < limit; i++) {
+            for (int i = 0; i < kept && i < row.length; i++) {
                 if (row[i].isSameAs(fresh)) {
                     return i;
                 }
             }
-            if (kept >= limit) {
+            if (kept < 0 || kept >= row.length) {
                 kept = 0;
                 flushed++;
                 flushedInSearch++;
@@ -979,7 +978,7 @@ public final class LinearSearch {
                     return NONE;
                 }
             }
-            row[limit] = row[kept];
+            spare = row[kept];
             row[kept] = fresh;
             kept++;
             made++;

@@ -75,6 +75,9 @@ public final class SearchTest {
         match("(.*)(.*)(.*)", "abcdefghabcdefghabcd", "0-20 0-20 20-20 20-20");
         match("(.*?)(.*?)(.*)", "abcdefghabcdefghabcd", "0-20 0-0 0-0 0-20");
         match("||||||||||||||||||||||||", "aaaaaaaaaaaaaaaaaaaa", "0-0 - - -");
+        match("ab$|a", "abc", "0-1 - - -");
+        match("(||||||||||||||||||||a)b", "ab", "0-2 0-1 - -");
+        match("(b??b??b??b??b??b??.)*", "aaaaaaaaaaaaaaaaaaaa", "0-20 19-20 - -");
         match(".?.?.?.?.?.?.?.?.?.?.?.?", "aaaaaaaaaaaaaaaaaaaa", "0-12 - - -");
     }
 
@@ -118,6 +121,10 @@ public final class SearchTest {
         x.search(2);
         x.search(2);
         CHECK.same("work when all states are known", x.work(), 0);
+        x.search(1);
+        CHECK.same("work of marks", x.work(), 5);
+        CHECK.same("marks are set anew", x.search(1), 1);
+        CHECK.same("work of marks again", x.work(), 5);
         x.search(0);
         CHECK.same("work of the latest search", x.work(), 6);
         CHECK.same("matcher of the latest search", x.matcher(), 0);
@@ -164,6 +171,7 @@ public final class SearchTest {
         planned("aaaaaaa", "a".repeat(15), 1);
         planned("aaaaaaa", "a".repeat(16), 2);
         planned("a", "a".repeat(20), 1);
+        planned("|".repeat(21), "aa", 2);
         planned("a".repeat(24), "aaaa", 1);
         planned("a".repeat(24), "aaaaa", 2);
         LinearSearch x = Check.ready(0, "a".repeat(20), "a".repeat(20));
