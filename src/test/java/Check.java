@@ -6,6 +6,7 @@ final class Check {
     }
 
     private final String name;
+    private String subject = "";
     private int checks;
     private int wrong;
 
@@ -17,8 +18,17 @@ final class Check {
         checks++;
         if (!want.equals(got)) {
             wrong++;
-            System.out.println(name + ": " + what + " answered " + got + ", due is " + want);
+            System.out.println(name + ": " + subject + what + " answered " + got + ", due is " + want);
         }
+    }
+
+    /** What the checks from here on are about, to be told with each wrong answer. */
+    void about(String newSubject) {
+        subject = newSubject + ": ";
+    }
+
+    int count() {
+        return checks;
     }
 
     void fails(String what, Class<? extends RuntimeException> want, Call call) {
@@ -60,6 +70,13 @@ final class Check {
         typeAll(x, pattern);
         x.compile();
         return x;
+    }
+
+    /** How many instructions the pattern has; the exception's name if it is none. */
+    static Object size(String pattern) {
+        LinearSearch x = new LinearSearch(0);
+        typeAll(x, pattern);
+        return outcome(x::compile);
     }
 
     static LinearSearch ready(int limit, String pattern, String text) {
