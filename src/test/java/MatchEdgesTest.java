@@ -11,6 +11,7 @@ public final class MatchEdgesTest {
         s.holds("An object is used for at most 512 calls after it has been made", MatchEdgesTest::manyCalls);
         s.holds(". (any letter)", MatchEdgesTest::anyLetter);
         s.holds("SPLIT first at x, then at y", MatchEdgesTest::priorities);
+        s.holds("SAVE notes the place in slot x of the thread, which goes on at the next instruction", MatchEdgesTest::notedPlaces);
         s.holds("FIRST goes on so at place 0 alone", MatchEdgesTest::first);
         s.holds("LAST so at the text's end alone", MatchEdgesTest::last);
         s.holds("What is followed was not yet followed at that place (all threads of the place have one row of marks)",
@@ -104,6 +105,14 @@ public final class MatchEdgesTest {
         match("a+?", "aa", "0-1 - - -");
         match("(a|ab)(b?)", "ab", "0-2 0-1 1-2 -");
         match("(ab|a)(b?)", "ab", "0-2 0-2 2-2 -");
+    }
+
+    private static void notedPlaces() {
+        match("()", FULL, "0-0 0-0 - -");
+        match("($)", FULL, "20-20 20-20 - -");
+        match("(.)$", FULL, "19-20 19-20 - -");
+        match("((.*))($)", FULL, "0-20 0-20 0-20 20-20");
+        match("(a)*", "aaa", "0-3 2-3 - -");
     }
 
     private static void first() {

@@ -9,6 +9,7 @@ public final class StatesEdgesTest {
         Sentences s = new Sentences(CHECK, args);
         s.holds("the limit of states is 3 and the lowest four bits of limit", StatesEdgesTest::limits);
         s.holds("a list of LETTERs, ANYs, LASTs and FOUND in their order (up to FOUND)", StatesEdgesTest::upToFound);
+        s.holds("where LAST stands in it instead of being gone on from", StatesEdgesTest::lastStands);
         s.holds("and whether instruction 0 was followed for it (OPEN)", StatesEdgesTest::openOrNot);
         s.holds("The first state is that of place 0, open.", StatesEdgesTest::firstState);
         s.holds("what the letter is right for is followed in order (at a place that is not 0)", StatesEdgesTest::laterPlaces);
@@ -81,6 +82,16 @@ public final class StatesEdgesTest {
         Check.feedAll(y, "c");
         searched("behind c, not the same before FOUND", y, 0, 1, 3, 0);
         made("a$", "a", 2);
+    }
+
+    /** Behind a and behind b the two states differ by their LASTs alone, at the text's end and before it. */
+    private static void lastStands() {
+        made("a$|b$", "a", 2);
+        made("a$|b$", "ab", 3);
+        made("a$|b$", "abc", 3);
+        made("(a|b)$", "ab", 2);
+        made("$a|$b", "c", 1);
+        made("$$", "c", 1);
     }
 
     private static void openOrNot() {
