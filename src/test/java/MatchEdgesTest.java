@@ -63,6 +63,8 @@ public final class MatchEdgesTest {
         match("(b??b??b??b??b??b??.)*", "a".repeat(20), "0-20 19-20 - -");
         match("(b??b??b??b??b??b??.)*hh", "a".repeat(20), "- - - -");
         match(".?.?.?.?.?.?.?.?.?.?.?.?", FULL, "0-12 - - -");
+        match("(||||||||||||||||||||a)b", "ab", "0-2 0-1 - -");
+        match("(||||||||||||||||||||.)*", FULL, "0-20 19-20 - -");
     }
 
     /** The 512 calls are 3 of type and compile, 20 of feed, and 163 times a search, a slot and breaks. */
