@@ -1,36 +1,34 @@
+import java.io.IOException;
 import java.lang.reflect.Constructor;
+import java.lang.reflect.Executable;
 import java.lang.reflect.Field;
 import java.lang.reflect.Method;
 import java.lang.reflect.Modifier;
+import java.nio.file.Files;
+import java.nio.file.Path;
+import java.util.List;
 import java.util.TreeSet;
 
 /** The public face is that of the document, and nothing else of the class can be seen from outside. */
 public final class FaceTest {
     private static final Check CHECK = new Check("FaceTest");
-    private static final String[] FACE = {"boolean type(char)", "void wipe()", "int compile()", "int instruction(int,int)",
-        "boolean simple()", "boolean feed(char)", "void clear()", "int search(int)", "int slot(int,boolean)", "int work()",
-        "int matcher()", "int states()", "int flushes()", "int breaks()"};
 
-    public static void main(String[] args) {
+    public static void main(String[] args) throws IOException {
         Class<?> c = LinearSearch.class;
         CHECK.same("public final", c.getModifiers(), Modifier.PUBLIC | Modifier.FINAL);
-        Constructor<?>[] made = c.getDeclaredConstructors();
-        CHECK.same("constructors", made.length, 1);
-        CHECK.same("constructor", made[0].toString(), "public LinearSearch(int)");
-        TreeSet<String> publicOnes = new TreeSet<>();
+        CHECK.same("above it", c.getSuperclass() == Object.class && c.getInterfaces().length == 0, true);
+        TreeSet<String> seen = new TreeSet<>();
         TreeSet<String> publicNames = new TreeSet<>();
+        for (Constructor<?> made : c.getDeclaredConstructors()) {
+            seen.add(shown(made, ""));
+        }
         for (Method m : c.getDeclaredMethods()) {
             if (!Modifier.isPrivate(m.getModifiers())) {
-                CHECK.same("modifiers of " + m, m.getModifiers(), Modifier.PUBLIC);
-                publicOnes.add(shown(m));
+                seen.add(shown(m, m.getReturnType() + " "));
                 publicNames.add(m.getName());
             }
         }
-        TreeSet<String> due = new TreeSet<>();
-        for (String method : FACE) {
-            due.add(method);
-        }
-        CHECK.same("methods", publicOnes, due);
+        CHECK.same("the face", seen, faceOf(Path.of(args.length > 1 ? args[1] : "../shared/DOC.md")));
         for (Method m : c.getDeclaredMethods()) {
             if (Modifier.isPrivate(m.getModifiers())) {
                 CHECK.same("private " + m.getName() + " bears a public name", publicNames.contains(m.getName()), false);
@@ -46,6 +44,20 @@ public final class FaceTest {
         CHECK.end();
     }
 
+    /** The lines of the document's class, as in "public int slot(int, boolean) throws IndexOutOfBoundsException". */
+    private static TreeSet<String> faceOf(Path document) throws IOException {
+        List<String> lines = Files.readAllLines(document);
+        int begin = lines.indexOf("public final class LinearSearch {");
+        int end = begin + lines.subList(Math.max(begin, 0), lines.size()).indexOf("}");
+        CHECK.same("the document has a face", begin >= 0 && end > begin, true);
+        TreeSet<String> face = new TreeSet<>();
+        for (String line : lines.subList(begin + 1, end)) {
+            face.add(line.strip().replaceAll("(int|char|boolean) \\w+([,)])", "$1$2").replace(";", ""));
+        }
+        CHECK.same("a constructor and 14 methods", face.size(), 15);
+        return face;
+    }
+
     private static void fields(Class<?> c) {
         int count = 0;
         for (Field f : c.getDeclaredFields()) {
@@ -57,12 +69,17 @@ public final class FaceTest {
         CHECK.same("few fields in " + c, count <= 20, true);
     }
 
-    private static String shown(Method m) {
+    private static String shown(Executable e, String answer) {
+        StringBuilder b = new StringBuilder(Modifier.toString(e.getModifiers()));
+        b.append(' ').append(answer).append(e.getName()).append('(').append(joined(e.getParameterTypes())).append(')');
+        return b.append(e.getExceptionTypes().length == 0 ? "" : " throws ").append(joined(e.getExceptionTypes())).toString();
+    }
+
+    private static String joined(Class<?>[] types) {
         StringBuilder b = new StringBuilder();
-        b.append(m.getReturnType()).append(' ').append(m.getName()).append('(');
-        for (int i = 0; i < m.getParameterCount(); i++) {
-            b.append(i == 0 ? "" : ",").append(m.getParameterTypes()[i]);
+        for (Class<?> type : types) {
+            b.append(b.length() == 0 ? "" : ", ").append(type.getSimpleName());
         }
-        return b.append(')').toString();
+        return b.toString();
     }
 }
